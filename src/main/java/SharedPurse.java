@@ -9,6 +9,7 @@ public final class SharedPurse {
     private static final int VOTERS = 24;
     private static final int LETTERS = 6;
     private static final int TEXT = 500;
+    private static final int FED = 20;
     private static final int BUDGET_TOP = 99999;
     private static final int COST_TOP = 9999;
     private static final int SCORE_TOP = 9;
@@ -31,10 +32,8 @@ public final class SharedPurse {
     private static final int MOST = 6;
     private static final int WORST_FIRST = 7;
 
-    private final byte[] tape = new byte[TEXT];
-    private int tapeSize = 0;
+    private final Reader reader = new Reader();
     private int faultPlace = NONE;
-    private final Reader reader = new Reader(tape);
 
     private final Poll poll = new Poll();
     private final Outcome[] outcomes = new Outcome[RULES];
@@ -59,29 +58,21 @@ public final class SharedPurse {
     // ---- the tape and the text
 
     public int feed(int a, int b, int c, int d, int e) {
-        if (tapeSize + 20 > TEXT) {
+        if (reader.tapeSize + FED > TEXT) {
             return NONE;
         }
-        putNumber(a);
-        putNumber(b);
-        putNumber(c);
-        putNumber(d);
-        putNumber(e);
-        return tapeSize;
-    }
-
-    private void putNumber(int number) {
-        for (int shift = 24; shift >= 0 && tapeSize < TEXT; shift -= 8) {
-            tape[tapeSize] = (byte) (number >>> shift);
-            tapeSize++;
-        }
+        reader.addBytes(a);
+        reader.addBytes(b);
+        reader.addBytes(c);
+        reader.addBytes(d);
+        reader.addBytes(e);
+        return reader.tapeSize;
     }
 
     public int election(int n) throws IllegalArgumentException {
-        if (n < 0 || n > tapeSize) {
+        if (n < 0 || n > reader.tapeSize) {
             throw new IllegalArgumentException("the tape has not so many");
         }
-        tapeSize = 0;
         int fault = reader.readText(n);
         if (fault != 0) {
             faultPlace = reader.place;
@@ -118,7 +109,7 @@ public final class SharedPurse {
             case 2: return poll.told.money;
             case 3: return poll.told.costOf((1 << poll.told.projects) - 1);
             case 4: return history.size;
-            case 5: return tapeSize;
+            case 5: return reader.tapeSize;
             default: return poll.told.law == null ? 0 : 1;
         }
     }
@@ -809,7 +800,7 @@ public final class SharedPurse {
 
     /** Equal shares, and purses raised. */
     private static final class Shares {
-        /** The price, or less, of each project; none (NONE) stays none, as purses only lose in one go. */
+        /** The price, or less, of each project; NONE stays, as purses only lose in one go, and for what is chosen. */
         private final int[] bounds = new int[PROJECTS];
         private final int[] pursesThen = new int[VOTERS];
 
@@ -817,22 +808,30 @@ public final class SharedPurse {
             Election told = poll.told;
             o.clear();
             o.raised = raised;
-            int purse = told.voters > 0 ? told.money * MILLS / told.voters + raised * MILLS : 0;
-            Arrays.fill(o.purses, purse);
+            Arrays.fill(o.purses, purseOf(poll, raised));
             for (int p = 0; p < told.projects; p++) {
                 bounds[p] = firstBound(poll, p);
             }
             for (int round = 0; round < told.projects && o.spent <= told.money; round++) {
-                int best = cheapest(poll, o);
+                int best = cheapest(poll, o.purses);
                 if (best == NONE) {
                     return;
                 }
                 o.buy(poll, best, bounds[best]);
+                bounds[best] = NONE;
             }
         }
 
+        private static int purseOf(Poll poll, int raised) {
+            int voters = poll.told.voters;
+            return voters > 0 ? poll.told.money * MILLS / voters + raised * MILLS : 0;
+        }
+
         void raise(Poll poll, Outcome o) {
-            for (int raised = canOnlyEndLast(poll) ? RAISES : 0; raised <= RAISES; raised++) {
+            for (int raised = 0; raised <= RAISES; raised++) {
+                if (raised < RAISES && !mayEnd(poll, purseOf(poll, raised))) {
+                    continue;
+                }
                 share(poll, o, raised);
                 if (o.spent > poll.told.money) {
                     share(poll, o, Math.max(0, raised - 1));
@@ -844,31 +843,50 @@ public final class SharedPurse {
             }
         }
 
-        /** Where some project is wanted by none and all others fit, nothing ends the raising early. */
-        private static boolean canOnlyEndLast(Poll poll) {
-            int wanted = 0;
-            for (int p = 0; p < poll.told.projects; p++) {
-                wanted |= poll.all[p] > 0 ? 1 << p : 0;
+        /** Where some project costs more than all its fans have, and the rest fits, such purses end nothing. */
+        private static boolean mayEnd(Poll poll, int purse) {
+            Election told = poll.told;
+            int cost = 0;
+            int many = 0;
+            for (int p = 0; p < told.projects; p++) {
+                if ((long) Integer.bitCount(poll.fans[p]) * purse >= told.costs[p] * MILLS) {
+                    cost += told.costs[p];
+                    many++;
+                }
             }
-            return wanted != (1 << poll.told.projects) - 1 && poll.told.costOf(wanted) <= poll.told.money;
+            return many == told.projects || cost > told.money;
         }
 
-        private int cheapest(Poll poll, Outcome o) {
+        /**
+         * The project that is next, its price in bounds. A bound that is not of this round is made good only when it
+         * is the least: whatever else has a greater one can't be ahead.
+         */
+        private int cheapest(Poll poll, int[] purses) {
+            int fresh = 0;
+            for (int tries = 0; tries <= 2 * PROJECTS; tries++) {
+                int best = leastBound(poll);
+                if (best == NONE || isIn(best, fresh)) {
+                    return best;
+                }
+                bounds[best] = priceFrom(poll, purses, best, bounds[best]);
+                fresh |= 1 << best;
+            }
+            return NONE;
+        }
+
+        private int leastBound(Poll poll) {
+            int[] liked = poll.liked;
+            int projects = poll.told.projects;
             int best = NONE;
-            for (int p = 0; p < poll.told.projects; p++) {
-                boolean isOpen = !o.has(p) && bounds[p] != NONE;
-                if (isOpen && (best == NONE || bounds[p] <= bounds[best])) {
-                    bounds[p] = priceFrom(poll, o.purses, p, bounds[p]);
-                    if (bounds[p] != NONE && (best == NONE || isAhead(poll, p, best))) {
-                        best = p;
-                    }
+            int least = 0;
+            for (int p = 0; p < projects; p++) {
+                int bound = bounds[p];
+                if (bound != NONE && (best == NONE || bound < least || bound == least && liked[p] > liked[best])) {
+                    best = p;
+                    least = bound;
                 }
             }
             return best;
-        }
-
-        private boolean isAhead(Poll poll, int p, int best) {
-            return bounds[p] < bounds[best] || bounds[p] == bounds[best] && poll.liked[p] > poll.liked[best];
         }
 
         /** With purses without end the price would be this. */
@@ -882,18 +900,22 @@ public final class SharedPurse {
          * if no more purses became empty never goes too far; and each try but the last finds one more that is empty.
          */
         private static int priceFrom(Poll poll, int[] purses, int project, int from) {
+            int[] worth = poll.worth;
+            int voters = poll.told.voters;
             int row = project * VOTERS;
             int target = poll.told.costs[project] * MILLS;
             int r = from;
             for (int tries = 0; tries <= VOTERS; tries++) {
                 int given = 0;
                 int open = 0;
-                for (int v = 0; v < poll.told.voters; v++) {
-                    int w = poll.worth[row + v];
-                    if ((long) r * w >= purses[v]) {
-                        given += purses[v];
-                    } else {
-                        open += w;
+                for (int v = 0; v < voters; v++) {
+                    int w = worth[row + v];
+                    if (w > 0) {
+                        if ((long) r * w >= purses[v]) {
+                            given += purses[v];
+                        } else {
+                            open += w;
+                        }
                     }
                 }
                 if (given + (long) open * r >= target) {
@@ -936,17 +958,21 @@ public final class SharedPurse {
         private final int[] costs = new int[PROJECTS + 1];
         private final int[] worths = new int[PROJECTS + 1];
         private final int[] toVoters = new int[(PROJECTS + 1) * VOTERS];
+        /** Of all projects that are less than one. */
+        private final int[] lesser = new int[PROJECTS];
+        private final int[] lesserToVoters = new int[PROJECTS * VOTERS];
 
         static int least(int set) {
             return set == 0 ? PROJECTS : Math.min(PROJECTS, Integer.numberOfTrailingZeros(set));
         }
 
         int bestSet(Poll poll, boolean worstFirst) {
+            sumLesser(poll);
             int best = 0;
             int bestToWorst = 0;
-            int stride = 1;
             int bestWorth = 0;
             int bestCost = 0;
+            int stride = 1;
             for (int set = 1; set < 1 << poll.told.projects; set += Math.max(1, stride)) {
                 int low = least(set);
                 int above = least(set & set - 1);
@@ -954,16 +980,17 @@ public final class SharedPurse {
                     return best;
                 }
                 int cost = costs[above] + poll.told.costs[low];
-                if (cost > poll.told.money) {
-                    // with lesser projects too it costs no less
+                int worth = worths[above] + poll.all[low];
+                boolean isOut = cost > poll.told.money || !worstFirst && worth + lesser[low] < bestWorth;
+                int toWorst = isOut || !worstFirst ? 0 : worstWith(poll, low, above, bestToWorst);
+                if (isOut || toWorst == NONE) {
+                    // neither is any better that has lesser projects too
                     stride = set & -set;
                     continue;
                 }
                 stride = 1;
                 costs[low] = cost;
-                int worth = worths[above] + poll.all[low];
                 worths[low] = worth;
-                int toWorst = worstFirst ? worstWith(poll, low, above) : 0;
                 boolean isMost = worth > bestWorth || worth == bestWorth && cost < bestCost;
                 if (toWorst > bestToWorst || toWorst == bestToWorst && isMost) {
                     best = set;
@@ -975,10 +1002,25 @@ public final class SharedPurse {
             return best;
         }
 
-        private int worstWith(Poll poll, int low, int above) {
-            int worst = poll.told.voters == 0 ? 0 : PROJECTS * WORTH_TOP;
-            for (int v = 0; v < poll.told.voters; v++) {
-                int sum = toVoters[above * VOTERS + v] + poll.worth[low * VOTERS + v];
+        private void sumLesser(Poll poll) {
+            for (int p = 0; p + 1 < poll.told.projects; p++) {
+                lesser[p + 1] = lesser[p] + poll.all[p];
+                for (int v = 0; v < poll.told.voters; v++) {
+                    lesserToVoters[(p + 1) * VOTERS + v] = lesserToVoters[p * VOTERS + v] + poll.worth[p * VOTERS + v];
+                }
+            }
+        }
+
+        /** The worth to the voter to whom it is least; NONE: with all lesser projects too it is below that asked. */
+        private int worstWith(Poll poll, int low, int above, int asked) {
+            int[] worth = poll.worth;
+            int voters = poll.told.voters;
+            int worst = voters == 0 ? 0 : PROJECTS * WORTH_TOP;
+            for (int v = 0; v < voters; v++) {
+                int sum = toVoters[above * VOTERS + v] + worth[low * VOTERS + v];
+                if (sum + lesserToVoters[low * VOTERS + v] < asked) {
+                    return NONE;
+                }
                 toVoters[low * VOTERS + v] = sum;
                 worst = Math.min(worst, sum);
             }
@@ -1231,7 +1273,7 @@ public final class SharedPurse {
         }
     }
 
-    /** Reads a text token by token. */
+    /** The tape, and the election that its text tells, read token by token. */
     private static final class Reader {
         private static final int END = 0;
         private static final int WORD = 1;
@@ -1244,8 +1286,9 @@ public final class SharedPurse {
         final Election told = new Election();
         int place = NONE;
 
+        private final byte[] text = new byte[TEXT];
+        int tapeSize = 0;
         private int fault = 0;
-        private final byte[] text;
         private int length = 0;
         private int at = 0;
         private int kind = END;
@@ -1259,14 +1302,18 @@ public final class SharedPurse {
         private int waits = 0;
         private int open = 0;
 
-        Reader(byte[] text) {
-            this.text = text;
+        void addBytes(int number) {
+            for (int shift = 24; shift >= 0 && tapeSize < TEXT; shift -= 8) {
+                text[tapeSize] = (byte) (number >>> shift);
+                tapeSize++;
+            }
         }
 
-        /** 0, or the fault, then its place stands in place. */
+        /** 0, or the fault, then its place stands in place; the tape is empty behind it. */
         int readText(int n) {
             told.clear();
-            length = Math.min(n, text.length);
+            length = Math.min(n, tapeSize);
+            tapeSize = 0;
             at = 0;
             fault = 0;
             for (int lines = 0; lines <= TEXT; lines++) {

@@ -4,7 +4,7 @@ import java.util.List;
 import java.util.Map;
 import java.util.NoSuchElementException;
 
-/** The document once more, as plainly as it can be told and without a thought of speed: what SharedPurse is held against. */
+/** The document once more, as plainly as it can be told, without a thought of speed: SharedPurse is held against it. */
 final class PlainPurse {
     static final int NONE = -1;
 

@@ -60,7 +60,7 @@ public final class RandomRunsTest {
     /** An election that has no fault. */
     static String election(Random r, int costTop) {
         StringBuilder s = new StringBuilder();
-        int projects = pick(r, 0, 1, 2, 3, 4, 5, 6, 7, 8);
+        int projects = r.nextInt(8) == 0 ? 9 + r.nextInt(4) : r.nextInt(9);
         int told = 0;
         int voters = 0;
         boolean law = r.nextInt(3) == 0;
@@ -185,6 +185,20 @@ public final class RandomRunsTest {
         }
     }
 
+    static void lookAtGroups(long seed, Random r, SharedPurse x, PlainPurse y) {
+        int rule = 4 + r.nextInt(5);
+        for (int what = 1; what <= 4 && x.count(0) < 9; what++) {
+            int w = what;
+            same(seed, "groups " + rule + " " + w, () -> x.groups(rule, w), () -> y.groups(rule, w));
+        }
+        for (int k = 0; k < 3 && x.count(1) > 0; k++) {
+            int v = r.nextInt(x.count(1));
+            int by = pick(r, 0, 1, 8, rule);
+            same(seed, "ride " + by, () -> x.ride(by, v, 0), () -> y.ride(by, v, 0));
+            same(seed, "ride " + by, () -> x.ride(by, v, 1), () -> y.ride(by, v, 1));
+        }
+    }
+
     static void wonder(long seed, Random r, SharedPurse x, PlainPurse y, int costTop) {
         int ps = x.count(0);
         int vs = x.count(1);
@@ -232,7 +246,7 @@ public final class RandomRunsTest {
     }
 
     public static void main(String[] args) {
-        int runs = args.length > 0 ? Integer.parseInt(args[0]) : 300;
+        int runs = args.length > 0 ? Integer.parseInt(args[0]) : 150;
         long first = args.length > 1 ? Long.parseLong(args[1]) : 1;
         for (long seed = first; seed < first + runs; seed++) {
             Random r = new Random(seed);
@@ -241,6 +255,7 @@ public final class RandomRunsTest {
             int costTop = pick(r, 3, 6, 12, 30);
             for (int rounds = 0; rounds < 6; rounds++) {
                 newElection(seed, r, x, y, costTop);
+                lookAtGroups(seed, r, x, y);
                 for (int k = 0; k < 30; k++) {
                     int kind = r.nextInt(8);
                     if (kind < 5) {
