@@ -471,47 +471,50 @@ final class PlainPurse {
         return x;
     }
 
-    /** Tick by tick: wants small costs. */
+    /** What is due by some ticks from now on, the one that comes first of several; NONE. */
+    static int dueIn(Told t, Result x, long[] purses, long ticks) {
+        int best = NONE;
+        for (int p = 0; p < t.projects(); p++) {
+            long sum = 0;
+            for (int v = 0; v < t.voters(); v++) {
+                sum += t.scores.get(v).get(p) > 0 ? purses[v] + ticks : 0;
+            }
+            boolean isDue = !x.order.contains(p) && sum >= 1000L * t.costs.get(p);
+            if (isDue && (best == NONE || t.liked(p) > t.liked(best))) {
+                best = p;
+            }
+        }
+        return best;
+    }
+
     static Result time(Told t) {
         Result x = new Result();
         long[] purses = new long[t.voters()];
-        long most = 1L;
-        for (int p = 0; p < t.projects(); p++) {
-            most += 1000L * t.costs.get(p);
-        }
         int spent = 0;
-        for (long tick = 0; tick <= most; tick++) {
-            boolean again = true;
-            while (again) {
-                again = false;
-                int best = NONE;
-                for (int p = 0; p < t.projects(); p++) {
-                    long sum = 0;
-                    for (int v = 0; v < t.voters(); v++) {
-                        sum += t.scores.get(v).get(p) > 0 ? purses[v] : 0;
-                    }
-                    boolean isDue = !x.order.contains(p) && sum >= 1000L * t.costs.get(p);
-                    if (isDue && (best == NONE || t.liked(p) > t.liked(best))) {
-                        best = p;
-                    }
-                }
-                if (best != NONE) {
-                    if (spent + t.costs.get(best) > t.budget) {
-                        return x;
-                    }
-                    spent += t.costs.get(best);
-                    x.order.add(best);
-                    for (int v = 0; v < t.voters(); v++) {
-                        purses[v] = t.scores.get(v).get(best) > 0 ? 0 : purses[v];
-                    }
-                    again = true;
+        while (true) {
+            long low = 0;
+            long high = 1_000_000_000L;
+            if (dueIn(t, x, purses, high) == NONE) {
+                return x;
+            }
+            while (low < high) {
+                long mid = (low + high) / 2;
+                if (dueIn(t, x, purses, mid) != NONE) {
+                    high = mid;
+                } else {
+                    low = mid + 1;
                 }
             }
+            int next = dueIn(t, x, purses, low);
+            spent += t.costs.get(next);
+            if (spent > t.budget) {
+                return x;
+            }
+            x.order.add(next);
             for (int v = 0; v < t.voters(); v++) {
-                purses[v]++;
+                purses[v] = t.scores.get(v).get(next) > 0 ? 0 : purses[v] + low;
             }
         }
-        return x;
     }
 
     static Result choose(int rule, Told t) {

@@ -57,6 +57,10 @@ public final class RandomRunsTest {
         return s.toString();
     }
 
+    static int someMoney(Random r, int projects, int costTop) {
+        return r.nextInt(Math.min(100000, 1 + projects * costTop));
+    }
+
     /** An election that has no fault. */
     static String election(Random r, int costTop) {
         StringBuilder s = new StringBuilder();
@@ -87,14 +91,13 @@ public final class RandomRunsTest {
                 s.append("law ").append(r.nextInt(3) == 0 ? "score" : sum(r, 0)).append(";\n");
                 law = false;
             } else {
-                int budget = r.nextInt(1 + projects * costTop);
-                s.append("budget ").append(r.nextInt(12) == 0 ? 99999 : budget).append(';');
+                s.append("budget ").append(r.nextInt(12) == 0 ? 99999 : someMoney(r, projects, costTop)).append(';');
             }
             if (s.length() > 400) {
                 break;
             }
         }
-        s.append(" budget ").append(r.nextInt(1 + projects * costTop)).append(';');
+        s.append(" budget ").append(someMoney(r, projects, costTop)).append(';');
         return s.toString();
     }
 
@@ -208,7 +211,7 @@ public final class RandomRunsTest {
         switch (r.nextInt(7)) {
             case 0: { int q = index(r, 5); same(seed, "groups " + rule + " " + q, () -> x.groups(rule, q), () -> y.groups(rule, q)); break; }
             case 1: same(seed, "away " + rule, () -> x.away(rule, v), () -> y.away(rule, v)); break;
-            case 2: { int b = pick(r, -1, 0, 99999, 100000, r.nextInt(1 + ps * costTop), r.nextInt(1 + ps * costTop));
+            case 2: { int b = r.nextInt(3) > 0 ? someMoney(r, ps, costTop) : pick(r, -1, 0, 99999, 100000);
                 same(seed, "with " + rule, () -> x.with(rule, b), () -> y.with(rule, b)); break; }
             case 3: { int s = r.nextInt(12) - 1;
                 same(seed, "voting " + rule, () -> x.voting(rule, v, p, s), () -> y.voting(rule, v, p, s)); break; }
@@ -224,7 +227,7 @@ public final class RandomRunsTest {
         int p = index(r, ps);
         int v = index(r, vs);
         switch (r.nextInt(8)) {
-            case 0: { int b = pick(r, -1, 0, 99999, 100000, r.nextInt(1 + ps * costTop), r.nextInt(1 + ps * costTop));
+            case 0: { int b = r.nextInt(3) > 0 ? someMoney(r, ps, costTop) : pick(r, -1, 0, 99999, 100000);
                 same(seed, "budget", () -> x.budget(b), () -> y.budget(b)); break; }
             case 1: { int c = r.nextInt(costTop + 2) - 1; same(seed, "cost", () -> x.cost(p, c), () -> y.cost(p, c)); break; }
             case 2: case 3: { int s = r.nextInt(12) - 1; same(seed, "score", () -> x.score(v, p, s), () -> y.score(v, p, s)); break; }
@@ -246,13 +249,13 @@ public final class RandomRunsTest {
     }
 
     public static void main(String[] args) {
-        int runs = args.length > 0 ? Integer.parseInt(args[0]) : 150;
+        int runs = args.length > 0 ? Integer.parseInt(args[0]) : 600;
         long first = args.length > 1 ? Long.parseLong(args[1]) : 1;
         for (long seed = first; seed < first + runs; seed++) {
             Random r = new Random(seed);
             SharedPurse x = new SharedPurse();
             PlainPurse y = new PlainPurse();
-            int costTop = pick(r, 3, 6, 12, 30);
+            int costTop = pick(r, 3, 6, 12, 30, 400, 9999);
             for (int rounds = 0; rounds < 6; rounds++) {
                 newElection(seed, r, x, y, costTop);
                 lookAtGroups(seed, r, x, y);
