@@ -1,112 +1,5 @@
-import java.util.NoSuchElementException;
-
 /** Each promise by its number: ordinary calls, the edges that the document names, wrong calls; reckoned by hand. */
-public final class PromisesTest {
-    private static int wrong = 0;
-    private static final int LOW = Integer.MIN_VALUE;
-    private static final int HIGH = Integer.MAX_VALUE;
-    /** Two who like both, one who likes a alone; purses of 10000. */
-    private static final String PARK = "project a 10;project b 20;budget 30;votes 2 a 1 b 1;votes 1 a 1;";
-
-    interface Call {
-        long answer();
-    }
-
-    private static void due(String what, long got, long want) {
-        if (got != want) {
-            wrong++;
-            System.out.println(what + " answered " + got + ", due is " + want);
-        }
-    }
-
-    private static void yes(String what, boolean got) {
-        due(what, got ? 1 : 0, 1);
-    }
-
-    private static void no(String what, boolean got) {
-        due(what, got ? 1 : 0, 0);
-    }
-
-    private static String thrown(Call c) {
-        try {
-            c.answer();
-            return "nothing";
-        } catch (NoSuchElementException e) {
-            return "none such";
-        } catch (IllegalArgumentException e) {
-            return "illegal";
-        } catch (RuntimeException e) {
-            return e.toString();
-        }
-    }
-
-    private static void noneSuch(String what, Call c) {
-        String t = thrown(c);
-        if (!t.equals("none such")) {
-            wrong++;
-            System.out.println(what + " throws " + t + ", due is NoSuchElementException");
-        }
-    }
-
-    private static void illegal(String what, Call c) {
-        String t = thrown(c);
-        if (!t.equals("illegal")) {
-            wrong++;
-            System.out.println(what + " throws " + t + ", due is IllegalArgumentException");
-        }
-    }
-
-    private static void feed(SharedPurse x, String text) {
-        for (int at = 0; at < text.length(); at += 20) {
-            int[] n = new int[5];
-            for (int i = 0; i < 20; i++) {
-                n[i / 4] = n[i / 4] << 8 | (at + i < text.length() ? text.charAt(at + i) & 255 : 32);
-            }
-            x.feed(n[0], n[1], n[2], n[3], n[4]);
-        }
-    }
-
-    private static int read(SharedPurse x, String text) {
-        feed(x, text);
-        return x.election(text.length());
-    }
-
-    private static SharedPurse of(String text) {
-        SharedPurse x = new SharedPurse();
-        int projects = read(x, text);
-        if (projects < 0) {
-            wrong++;
-            System.out.println(text + " has fault " + (-10 - projects) + " at " + x.fault());
-        }
-        return x;
-    }
-
-    private static void fault(String text, int what, int place) {
-        SharedPurse x = of(PARK);
-        due("election(" + text + ")", read(x, text), -10 - what);
-        due("fault of " + text, x.fault(), place);
-        due("projects behind a fault", x.count(0), 2);
-        due("tape behind a fault", x.count(5), 0);
-    }
-
-    private static void good(String text, int projects) {
-        SharedPurse x = new SharedPurse();
-        due("election(" + text + ")", read(x, text), projects);
-        due("fault of " + text, x.fault(), -1);
-    }
-
-    private static String times(String s, int n) {
-        return s.repeat(n);
-    }
-
-    private static String projects(int n) {
-        StringBuilder s = new StringBuilder();
-        for (int i = 0; i < n; i++) {
-            s.append("project ").append((char) ('a' + i)).append(" 1;");
-        }
-        return s.toString();
-    }
-
+public final class PromisesTest extends Checks {
     public static void main(String[] args) {
         newObject();
         feeding();
@@ -129,8 +22,7 @@ public final class PromisesTest {
         going();
         images();
         wrongCalls();
-        System.out.println(wrong == 0 ? "all promises are kept" : wrong + " wrong");
-        System.exit(wrong == 0 ? 0 : 1);
+        finish("all promises are kept");
     }
 
     private static void newObject() { // promise 1
