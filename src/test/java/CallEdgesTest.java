@@ -164,6 +164,7 @@ public final class CallEdgesTest extends Checks {
         due("no voters", y.count(1), 0);
         due("no budget", y.count(2), 0);
         due("outcome anew", y.outcome(4, 0), 0);
+        usedLikeNew();
         says("3: -10 less the FAULT (nothing else changes)");
         String[] wrong = {"?", "budget 100000;", "votes 1 a 1;", "votes 9;votes 9;votes 7;", "law 1;law 1;"};
         for (int k = 0; k < wrong.length; k++) {
@@ -178,6 +179,55 @@ public final class CallEdgesTest extends Checks {
         SharedPurse w = of("project a 1;votes 1 a 1;law 5;");
         due("half a text", read(w, "project q 9;votes 9 q 9;budget 9;law 9"), -11);
         due("none of it counts", w.count(2) + w.count(1) + w.vote(0, 0, true) + w.project(0, 3), 7);
+    }
+
+    private static void usedLikeNew() {
+        says("3: The tape's first n bytes are an ELECTION, whatever was ahead of it");
+        String[] texts = {"", PARK, "budget 9;votes 3;", "project a 1;project b 2;budget 2;",
+            "project a 3;project b 1;project c 2;budget 5;votes 1 a9b2;votes 2 c1;votes 2 a3c3;law score*2;",
+            "project a 2;project b 2;project c 2;budget 3;votes 3 c1;votes 1 b1;"};
+        for (String first : texts) {
+            for (String second : texts) {
+                alike(second + " behind " + first, x -> {
+                    read(x, first);
+                    askMuch(x);
+                    read(x, second);
+                }, x -> read(x, second));
+            }
+        }
+        says("30: The ELECTION is as it was kept, whatever was ahead of it");
+        for (String second : texts) {
+            alike("an image of " + second, x -> {
+                read(x, second);
+                x.image();
+                read(x, texts[4]);
+                askMuch(x);
+                x.back();
+            }, x -> {
+                read(x, second);
+                x.image();
+            });
+        }
+        says("An ACT, whatever was asked ahead of it");
+        Deed[] acts = {x -> x.budget(3), x -> x.cost(2, 1), x -> x.score(4, 1, 9), x -> x.go(true, 2),
+            x -> x.go(false, 0)};
+        for (int k = 0; k < acts.length; k++) {
+            Deed act = acts[k];
+            alike("act " + k, x -> {
+                read(x, texts[4]);
+                askMuch(x);
+                act.on(x);
+            }, x -> {
+                read(x, texts[4]);
+                act.on(x);
+            });
+            alike("act " + k + " undone", x -> {
+                read(x, texts[4]);
+                act.on(x);
+                askMuch(x);
+                x.undo();
+            }, x -> read(x, texts[4]));
+        }
     }
 
     private static void faultPlaces() {
@@ -286,6 +336,8 @@ public final class CallEdgesTest extends Checks {
         due("the worst", y.outcome(4, 4), 0);
         y.budget(0);
         due("all have", y.outcome(4, 5), 3);
+        due("to the only one", of("project a 1;budget 1;votes 1 a 5;law score;").outcome(4, 4), 5);
+        due("the first is the worst", of("project a 1;budget 1;votes 1 a 2;votes 1 a 5;law score;").outcome(4, 4), 2);
         says("8: 6 raised how often (RULES 2, 3; 0 of others)");
         for (int rule = 0; rule <= 8; rule++) {
             due("raised", x.outcome(rule, 6), rule == 2 || rule == 3 ? 4 : 0);
@@ -558,6 +610,7 @@ public final class CallEdgesTest extends Checks {
         noneSuch("not again", () -> x.go(false, 2));
         due("the first", x.go(false, 0), 1);
         due("bc has number 0 now", x.project(0, 4), 3);
+        due("its cost", x.project(0, 0), 2);
         due("its score", x.vote(0, 0, false), 2);
         due("the only one", x.go(false, 0), 0);
         noneSuch("none is left", () -> x.go(false, 0));

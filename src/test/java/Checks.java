@@ -190,17 +190,38 @@ abstract class Checks {
         return s.toString();
     }
 
-    /** Two objects made ready alike; with the call or without it all that can be asked behind it is the same. */
-    static void changesNothing(String what, Deed ready, Asked call) {
-        SharedPurse with = new SharedPurse();
-        SharedPurse without = new SharedPurse();
-        ready.on(with);
-        ready.on(without);
-        thrown(() -> call.on(with));
-        String got = lookThrough(with);
-        String want = lookThrough(without);
+    /** Behind either all that can be asked is the same. */
+    static void alike(String what, Deed one, Deed other) {
+        SharedPurse x = new SharedPurse();
+        SharedPurse y = new SharedPurse();
+        one.on(x);
+        other.on(y);
+        String got = lookThrough(x);
+        String want = lookThrough(y);
         if (!got.equals(want)) {
             tell(what + " changes what stands: " + got + "due is " + want);
         }
+    }
+
+    /** With the call or without it all is the same. */
+    static void changesNothing(String what, Deed ready, Asked call) {
+        alike(what, x -> {
+            ready.on(x);
+            thrown(() -> call.on(x));
+        }, ready);
+    }
+
+    /** Questions by all rules, of what is there and of what would be. */
+    static void askMuch(SharedPurse x) {
+        for (int rule = 0; rule <= 8; rule++) {
+            int r = rule;
+            x.outcome(rule, 0);
+            x.groups(rule, 2);
+            x.with(rule, 7);
+            thrown(() -> x.away(r, 0));
+            thrown(() -> x.push(r, 0));
+            thrown(() -> x.discount(r, 0));
+        }
+        thrown(() -> x.price(0, 0));
     }
 }

@@ -42,6 +42,16 @@ public final class RuleEdgesTest extends Checks {
         due("of 24 cut", of("budget 1;" + all24("")).left(0, 23), 41);
     }
 
+    /** The same budget, the same score: the same is chosen. */
+    private static void sameWould(String text) {
+        SharedPurse x = of(text);
+        for (int rule = 0; rule <= 8; rule++) {
+            SharedPurse y = of(text);
+            due("with the same budget, rule " + rule + " of " + text, y.with(rule, y.count(2)), x.outcome(rule, 0));
+            due("with the same score", y.voting(rule, 0, 0, y.vote(0, 0, false)), x.outcome(rule, 0));
+        }
+    }
+
     private static void prices() {
         says("PRICE of a PROJECT: the least r (1 on)");
         due("1 is enough", of("project a 1;budget 1;votes 1 a 1;law 1000;").price(0, 0), 1);
@@ -62,6 +72,14 @@ public final class RuleEdgesTest extends Checks {
         due("nor chosen", of("project a 1;budget 9;votes 3 a 1;law 0;").outcome(0, 0), 0);
         due("without voters", of("project a 1;budget 9;").price(0, 0), NONE);
         due("without money", of("project a 1;votes 1 a 1;").price(0, 0), NONE);
+        // a takes 1000 of the first; then 2000 and 2500 and 2500 for b; c could be at first
+        SharedPurse w = of("project a 1;project b 7;project c 9;budget 9;votes 1 a9b1c1;votes 2 b1c1;law score;");
+        due("a", w.price(0, 0), 112);
+        due("b at first", w.price(1, 0), 2334);
+        due("b behind a", w.price(1, 1), 2500);
+        due("c at first", w.price(2, 0), 3000);
+        due("c behind a", w.price(2, 1), NONE);
+        due("left to the last", w.left(0, 2), 500);
         says("PRICE of a PROJECT behind the k-th that is chosen; NONE: none, it is chosen by then");
         SharedPurse y = of("project a 1;project b 1;project c 9;budget 5;votes 1 a 9 b 3 c 1;law score;");
         due("a at first", y.price(0, 0), 112);
@@ -284,6 +302,19 @@ public final class RuleEdgesTest extends Checks {
         due("not with 29", x.with(1, 29), 1);
         due("all chosen, nothing to fill", x.with(1, 60), 3);
         due("nothing chosen, both filled", of("project a 1;project b 1;budget 2;").outcome(1, 0), 3);
+        // nobody can pay; a has more votes, b more for its cost
+        SharedPurse z = of("project a 5000;project b 2700;budget 5000;votes 3 a1;votes 2 b1;");
+        due("by all, not by cost", z.outcome(1, 0), 1);
+        due("by all, not by cost", z.outcome(3, 0), 1);
+        due("with as much", z.with(1, 5000), 1);
+        due("with as much", z.with(3, 5000), 1);
+        // b is shared; then a, which has more votes, doesn't fit any more
+        String small = "project a 4;project b 1;budget 4;votes 3 a1;votes 1 b1;";
+        for (int rule = 0; rule <= 3; rule++) {
+            due("b ahead", of(small).outcome(rule, 0), 2);
+            due("b ahead", of(small).with(rule, 4), 2);
+        }
+        due("a ahead", of(small).outcome(4, 0), 1);
         says("RULES 3 RAISED AND FILLED");
         // both would come with 1000 more: 2 are too much, so purses stay; then a fits
         SharedPurse y = of("project a 1;project b 1;budget 1;votes 1 a 1;votes 1 b 1;");
@@ -312,6 +343,10 @@ public final class RuleEdgesTest extends Checks {
         SharedPurse w = of("project a 2;project b 1;budget 2;votes 1 a 1;votes 1 b 1;");
         due("b alone", w.outcome(2, 0), 2);
         due("not raised", w.outcome(2, 6), 0);
+        SharedPurse v = of("project a 2;project b 1;project c 1;budget 2;votes 1 a 1;votes 1 b 1;");
+        due("the same beside what nobody wants", v.outcome(2, 0), 2);
+        due("not raised", v.outcome(2, 6), 0);
+        due("were it so", v.with(2, 2), 2);
         says("ends also with the first ones by which all PROJECTS are chosen");
         due("at once", of("project a 1;budget 1;votes 1 a 1;").outcome(2, 6), 0);
         due("at once, with more than enough", of("project a 1;budget 99999;votes 1 a 1;").left(2, 0), 99998000);
@@ -354,6 +389,9 @@ public final class RuleEdgesTest extends Checks {
         SharedPurse y = of("project a 1;project b 2;project c 3;project d 4;budget 5;votes 1 a1b2c3d4;law score;");
         due("the least as bits", y.outcome(6, 0), 6);
         due("by worst first as well", y.outcome(7, 0), 6);
+        // b and c are 5 for 6, a and d 5 for 5
+        due("later and costs less", of("project a 1;project b 3;project c 3;project d 4;budget 6;votes 1 a1b2c3d4;"
+                + "law score;").outcome(6, 0), 9);
         due("the first by number", y.chosen(6, 0), 1);
         due("the next by number", y.chosen(6, 1), 2);
         noneSuch("no third", () -> y.chosen(6, 2));
@@ -369,6 +407,15 @@ public final class RuleEdgesTest extends Checks {
         due("most", x.outcome(6, 0), 1);
         due("worst first", x.outcome(7, 0), 4);
         due("its worst", x.outcome(7, 4), 1);
+        SharedPurse y = of("project a 1;project b 1;project c 2;budget 2;votes 1 c 1;votes 2 a 9 c 1;law score;");
+        due("the first is the worst", y.outcome(7, 0), 4);
+        // 5, then 9 of all three; b or c alone is no help
+        due("all three", of("project a 1;project b 1;project c 1;budget 3;votes 1 a5b4;votes 1 a5c4;law score;")
+                .outcome(7, 0), 7);
+        due("behind what nobody wants", of("project z 1;project a 1;project b 1;project c 1;budget 3;votes 1 a5b4;"
+                + "votes 1 a5c4;law score;").outcome(7, 0), 14);
+        due("to the worst", of("project z 1;project a 1;project b 1;project c 1;budget 3;votes 1 a5b4;"
+                + "votes 1 a5c4;law score;").outcome(7, 4), 9);
         says("of several by MOST");
         // one voter has nothing of all: the worst is 0 of each set
         due("by worth", of("project a 1;project b 1;budget 1;votes 1;votes 2 b 1;").outcome(7, 0), 2);
@@ -497,6 +544,13 @@ public final class RuleEdgesTest extends Checks {
         no("one less than two of it", x.isServed(7, 4, true));
         SharedPurse y = of("project a 6;project b 1;project c 1;budget 6;votes 2 a 3;votes 1 a 3 b 4 c 4;law score;");
         no("3 and 4 are less than 8", y.isServed(6, 4, true));
+        // b is chosen; a and c, of them a is missing and the most
+        SharedPurse w = of("project a 3;project b 1;project c 9;budget 1;votes 1 a5b2c1;votes 3 b2;law score;");
+        due("b", w.outcome(4, 0), 2);
+        yes("2 and 5 are no less than 5 and 1", w.isServed(5, 4, true));
+        yes("2 and 1 are no less than 1", w.isServed(4, 4, true));
+        no("2 is less than 5", w.isServed(1, 4, false));
+        groupsOfAll();
         says("to some MEMBER");
         no("no member: not served", of("project a 1;budget 9;votes 1;").isServed(1, 4, false));
         no("no member: not nearly", of("project a 1;budget 9;votes 1;").isServed(1, 4, true));
@@ -513,6 +567,34 @@ public final class RuleEdgesTest extends Checks {
         due("none", z.groups(1, 4), NONE);
         noneSuch("rule 9 of what 0 too", () -> z.groups(9, 0));
         noneSuch("rule -1 of what 0 too", () -> z.groups(-1, 0));
+    }
+
+    private static void groupsOfAll() {
+        says("of these by a RULE not SERVED (1), not NEARLY (2)");
+        // a, 3 to each, is chosen; the last has 1 of b, 4 of c; due are a, b, c, b and c
+        SharedPurse x = of("project a 6;project b 1;project c 1;budget 6;votes 2 a3;votes 1 a3b1c4;law score;");
+        due("due", x.groups(4, 0), 4);
+        due("c, b and c", x.groups(4, 1), 2);
+        due("c", x.groups(4, 3), 4);
+        due("nearly all", x.groups(4, 2), 0);
+        // two have 2 of b and 2 of c, and 3 of a, which is chosen
+        SharedPurse y = of("project a 2;project b 1;project c 1;budget 2;votes 2 a3b2c2;law score;");
+        due("a, b, c, b and c", y.groups(4, 0), 4);
+        due("b and c", y.groups(4, 1), 1);
+        due("b and c", y.groups(4, 3), 6);
+        due("3 and 2", y.groups(4, 2), 0);
+        // d, 10 to each, is chosen; the last of four is due each set of a, b, c, 2 of each
+        SharedPurse z = of("project a 1;project b 1;project c 1;project d 12;budget 12;votes 3 d1;votes 1 a2b2c2d1;"
+                + "law score+liked/4*9;");
+        due("d", z.outcome(4, 0), 8);
+        due("all sets of three, d", z.groups(4, 0), 8);
+        due("10 of d are more than 2, 4, 6", z.groups(4, 1), 0);
+        SharedPurse w = of("project a 1;project b 1;project c 1;project d 12;budget 12;votes 3 d5;votes 1 a2b2c2d1;"
+                + "law score;");
+        due("d", w.outcome(4, 0), 8);
+        due("not served: all but d", w.groups(4, 1), 7);
+        due("1 and 2 are less than 4, 6", w.groups(4, 2), 4);
+        due("the first", w.groups(4, 4), 3);
     }
 
     private static void rides() {
@@ -579,10 +661,20 @@ public final class RuleEdgesTest extends Checks {
             due("of 1", of("project a 1;votes 1 a 1;").discount(rule, 0), NONE);
         }
         due("8 tenths less of 9 is 1", of("project a 9;budget 1;").discount(4, 0), 8);
+        says("the COST would have to be less (a LAW sees it so)");
+        // at 8 it fits, but is worth 8 only, less than b
+        due("never", of("project a 20;project b 9;budget 9;votes 1 a1b1;law cost;").discount(4, 0), NONE);
+        due("5 tenths", of("project a 20;project b 9;budget 10;votes 1 a1b1;law cost;").discount(4, 0), 5);
         due("nothing has changed", of("project a 9;budget 1;").project(0, 0), 9);
     }
 
     private static void whatWouldBe() {
+        says("What would be chosen, with what is there");
+        sameWould(PARK);
+        sameWould(FULL);
+        sameWould("project a 2;project b 1;budget 2;votes 1 a 1;votes 1 b 1;");
+        sameWould("project a 4;project b 1;budget 4;votes 3 a1;votes 1 b1;");
+        sameWould("project a 1;project b 1;project c 3;budget 9;votes 1 a 1 b 1;votes 2 c 1;law score*3;");
         says("What would be chosen, were a VOTER away");
         int[] bits = {0, 1, 0, 1, 1, 1, 0, 0, 0};
         SharedPurse x = of("project a 1;budget 1;votes 1 a 1;");

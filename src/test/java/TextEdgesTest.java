@@ -5,6 +5,7 @@ public final class TextEdgesTest extends Checks {
         texts();
         everyByte();
         numbers();
+        words();
         blanks();
         lines();
         budgets();
@@ -171,6 +172,20 @@ public final class TextEdgesTest extends Checks {
             fault("votes " + n + ";", 2, 6);
             fault("project a 1;votes 1 a " + n + ";", 2, 22);
             fault("law " + n + ";", 2, 4);
+        }
+    }
+
+    private static void words() {
+        says("In quotes is what stands there");
+        String[] almost = {"cudget 1;", "budgea 1;", "rroject a 1;", "projecs a 1;", "wotes 1;", "votet 1;", "maw 1;",
+            "lax 1;", "budge 1;", "budgett 1;", "la 1;", "laww 1;"};
+        for (String line : almost) {
+            fault(line, 1, 0);
+        }
+        String[] parts = {"tcore", "scorf", "dost", "cosu", "miked", "likee", "woters", "votert", "votes", "scor",
+            "scores", "a"};
+        for (String part : parts) {
+            fault("law " + part + ";", 1, 4);
         }
     }
 
@@ -522,6 +537,13 @@ public final class TextEdgesTest extends Checks {
         due("its fault", x.fault(), NONE);
         due("behind a fault in it", read(x, "law 2"), -11);
         due("and again", read(x, "law 3;"), 0);
+        String[] halves = {"law ((((((1+2*(", "law 9-(1", "law 1+2*", "law (((1)+2)*3", "law 7/(2-?"};
+        for (String half : halves) {
+            SharedPurse y = of("project a 1;");
+            read(y, half);
+            due("nothing of " + half, read(y, "project a 1;votes 1 a 3;law ((((((1+score*2))))));"), 1);
+            due("its own law alone", y.vote(0, 0, true), 7);
+        }
     }
 
     private static void firstTokenFirst() {
