@@ -619,6 +619,26 @@ public final class CallEdgesTest extends Checks {
         due("the only one", x.go(true, 0), 0);
         noneSuch("none is left", () -> x.go(true, 0));
         due("acts", x.count(4), 6);
+        says("27: what has gone is neither chosen nor wanted");
+        SharedPurse z = of("project a 1;project b 1;budget 2;votes 2 a1b1;");
+        for (int rule = 0; rule <= 8; rule++) {
+            due("both", z.outcome(rule, 0), 3);
+        }
+        z.go(false, 1);
+        for (int rule = 0; rule <= 8; rule++) {
+            due("a alone, rule " + rule, z.outcome(rule, 0), 1);
+            due("were there more", z.with(rule, 99999), 1);
+            due("groups", z.groups(rule, 0), 1);
+        }
+        SharedPurse w = of("project a 1;project b 1;budget 1;votes 1 a1;votes 2 b1;");
+        w.go(false, 1);
+        for (int rule = 1; rule <= 8; rule++) {
+            due("b, wanted more, is gone, rule " + rule, w.outcome(rule, 0), 1);
+        }
+        z.go(true, 1);
+        due("liked by the one that is left", z.project(0, 1), 1);
+        due("members", z.group(1, 0), 1);
+        due("left to all", z.left(0, NONE), 1000);
         says("27: those behind have numbers less by 1");
         SharedPurse y = of(projects(12, 7) + "votes 1 a1;votes 1 b2;votes 9;votes 9;votes 3;votes 1 l9k8;");
         due("one of twelve", y.go(false, 1), 11);

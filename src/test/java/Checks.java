@@ -171,7 +171,10 @@ abstract class Checks {
             for (int k = 0; k < x.outcome(rule, 1); k++) {
                 s.append(x.chosen(rule, k)).append(' ');
             }
-            s.append(x.groups(rule, 1)).append('\n');
+            for (int what = 0; what <= 3; what++) {
+                s.append(x.groups(rule, what)).append(' ');
+            }
+            s.append('\n');
         }
         for (int rule = 0; rule <= 3; rule++) {
             s.append(x.left(rule, NONE)).append(' ');

@@ -525,6 +525,8 @@ public final class RuleEdgesTest extends Checks {
         }
         y.cost(0, 1);
         due("eleven with a", y.group(2047, 3), 1);
+        due("a, c, both; b is too dear", of("project a 1;project b 9;project c 1;budget 3;votes 1 a1b1c1;")
+                .groups(0, 0), 3);
     }
 
     private static void servedGroups() {
