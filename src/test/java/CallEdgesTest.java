@@ -28,6 +28,8 @@ public final class CallEdgesTest extends Checks {
         images();
         refusedCallsChangeNothing();
         questionsChangeNothing();
+        fullQuestions();
+        fullActs();
         finish("all edges of the calls hold");
     }
 
@@ -830,6 +832,70 @@ public final class CallEdgesTest extends Checks {
             x.budget(3);
             feed(x, "law 1;");
         }, x -> x.back() ? 1 : 0);
+    }
+
+    private static void fullQuestions() {
+        says("the last PROJECT of 12, the last VOTER of 24");
+        for (int rule = 0; rule <= 8; rule++) {
+            SharedPurse x = of(FULL);
+            due("ten, rule " + rule, x.outcome(rule, 0), 1023);
+            due("served", x.served(rule, 23), 10);
+            yes("the last", x.isServed(2048, rule, false));
+            no("10 are less than 11", x.isServed(2047, rule, false));
+            yes("11 with one", x.isServed(4094, rule, true));
+            no("not 12", x.isServed(4095, rule, true));
+            due("away", x.away(rule, 23), 1023);
+            due("away", x.away(rule, 0), 1023);
+            due("voting", x.voting(rule, 23, 11, 0), 1023);
+            due("ride", x.ride(rule, 23, 0), 0);
+            due("by none", x.ride(rule, 23, 1), NONE);
+            due("all want it already", x.push(rule, 11), NONE);
+            due("for 8999 it is the cheapest", x.discount(rule, 11), 1);
+        }
+        SharedPurse y = of(FULL);
+        due("score", y.vote(23, 11, false), 1);
+        due("worth", y.vote(23, 11, true), 1);
+        due("not paid for", y.paid(0, 23, 11), 0);
+        due("paid for", y.paid(0, 23, 9), 416625);
+        due("price at first", y.price(11, 0), 416625);
+        due("price behind nine", y.price(11, 9), 416625);
+        due("price behind ten", y.price(11, 10), NONE);
+        due("members", y.group(2048, 0), 0xffffff);
+        due("no letter", y.project(11, 8), 0);
+        due("all 24 aren't enough", of(projects(11) + "project l 25;budget 24;" + all24("")).push(0, 11), NONE);
+        due("all 24 are", of(projects(11) + "project l 24;budget 24;" + all24("")).push(0, 11), 24);
+    }
+
+    private static void fullActs() {
+        says("ACTS with 12 PROJECTS, 24 VOTERS");
+        SharedPurse x = of(FULL);
+        due("cost", x.cost(11, 1), 9999);
+        due("it is the cheapest", x.chosen(0, 0), 11);
+        due("score", x.score(23, 11, 9), 1);
+        due("score", x.vote(23, 11, false), 9);
+        due("the first voter", x.go(true, 0), 23);
+        due("the last has number 22", x.vote(22, 11, false), 9);
+        due("another row", x.vote(22, 10, false), 1);
+        due("the last voter", x.go(true, 22), 22);
+        due("the first project", x.go(false, 0), 11);
+        due("l has number 10", x.project(10, 3), 12);
+        due("its cost", x.project(10, 0), 1);
+        due("the last project", x.go(false, 10), 10);
+        due("k is the last", x.project(9, 3), 11);
+        for (int k = 5; k >= 0; k--) {
+            due("undo", x.undo(), k);
+        }
+        due("12", x.count(0), 12);
+        due("24", x.count(1), 24);
+        due("9999", x.project(11, 0), 9999);
+        due("1", x.vote(23, 11, false), 1);
+        due("ten", x.outcome(0, 0), 1023);
+        x.image();
+        read(x, PARK);
+        yes("back", x.back());
+        due("the last letter", x.project(11, 3), 12);
+        due("the last score", x.vote(23, 11, false), 1);
+        due("all costs", x.count(3), 119988);
     }
 
     private static void fullTape(SharedPurse x) {

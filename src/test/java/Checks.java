@@ -144,6 +144,9 @@ abstract class Checks {
         return "votes 9 " + scores + ";votes 9 " + scores + ";votes 6 " + scores + ";";
     }
 
+    /** Twelve wanted by all 24, each 9999; with a budget of 99999 ten of them fit. */
+    static final String FULL = projects(12, 9999) + "budget 99999;" + all24("a1b1c1d1e1f1g1h1i1j1k1l1");
+
     /** All that is told, as far as calls tell it. */
     static String lookAtTold(SharedPurse x) {
         StringBuilder s = new StringBuilder();

@@ -1,8 +1,5 @@
 /** The document's sentences on rules, groups and what would be that name a boundary, one by one; reckoned by hand. */
 public final class RuleEdgesTest extends Checks {
-    /** Wanted by all 24, each 9999; with a budget of 99999 ten of them fit. */
-    private static final String FULL = projects(12, 9999) + "budget 99999;" + all24("a1b1c1d1e1f1g1h1i1j1k1l1");
-
     public static void main(String[] args) {
         purses();
         prices();

@@ -502,6 +502,8 @@ public final class TextEdgesTest extends Checks {
         fault("project a 1;votes 1 ab 1;", 3, 20);
         fault("project a 1;votes 1 a 1 b 1;", 3, 24);
         fault("project a 1;votes 1 score 1;", 3, 20);
+        fault(projects(12) + "votes 1 m 1;", 3, 152);
+        fault(projects(12) + "votes 1 l 1 zzzzzz 1;", 3, 156);
         says("that is told already in this LINE (of votes)");
         fault("project a 1;votes 1 a 1 a 1;", 3, 24);
         fault("project a 1;votes 1 a 0 a 1;", 3, 24);
