@@ -33,7 +33,7 @@ import javax.tools.JavaCompiler;
 import javax.tools.StandardJavaFileManager;
 import javax.tools.ToolProvider;
 
-/** The rules of LANGUAGE.md that can be seen in the class's source. */
+/** Those rules of LANGUAGE.md that are easily seen in the class's source; guards and ends of loops are not among them. */
 public final class LanguageTest extends Checks {
     private static final String MAIN = "src/main/java/SharedPurse.java";
     private static final Set<String> IMPORTS = Set.of("java.util.Arrays", "java.util.NoSuchElementException",

@@ -114,7 +114,7 @@ public final class RoomTest extends Checks {
         }
     }
 
-    /** As many calls as an object may be asked: but for elections and what is thrown, none makes an object. */
+    /** Nearly as many calls as an object may be asked: where nothing is thrown, none of these makes an object. */
     private static void makesNothing() {
         com.sun.management.ThreadMXBean thread =
                 (com.sun.management.ThreadMXBean) ManagementFactory.getThreadMXBean();
